@@ -31,6 +31,8 @@ public final class ReadTest {
         reads("18446744073709551609", "constant -7");
         reads("0x0", "constant 0");
         reads("0xaBcDeF09", "constant " + 0xabcdef09L);
+        reads("0xA", "constant 10");
+        reads("0xa", "constant 10");
         reads("0xffffffffffffffff", "constant -1");
         reads("0x" + "0".repeat(40) + "8000000000000000", "constant " + Long.MIN_VALUE);
         reads("0b0", "constant 0");
