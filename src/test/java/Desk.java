@@ -1,8 +1,34 @@
 import java.nio.charset.StandardCharsets;
 
-/** A reader with whole lines typed at once; each character of a text is one byte of the line. */
+/**
+ * A reader with whole lines typed at once; each character of a text is one byte of the line. It
+ * refuses to make more calls than the document promises anything for.
+ */
 final class Desk {
-    final ExpressionReader reader = new ExpressionReader();
+    static final int LONGEST_LINE = 1024;
+    private static final int MOST_CALLS = 512;
+
+    private final ExpressionReader reader = new ExpressionReader();
+    private int calls = 0;
+
+    /** a and b have the places 0 and 1, five and zero are constants, r is barred. */
+    static Desk withNames() {
+        Desk desk = new Desk();
+        desk.place("a");
+        desk.place("b");
+        desk.constant("five", 5);
+        desk.constant("zero", 0);
+        desk.bar("r");
+        return desk;
+    }
+
+    int callsLeft() {
+        return MOST_CALLS - calls;
+    }
+
+    boolean type(long word, int n) {
+        return called().type(word, n);
+    }
 
     /** Types the text in words of up to 8 bytes; false as soon as the reader refuses one. */
     boolean type(String text) {
@@ -13,7 +39,7 @@ final class Desk {
             for (int i = 0; i < n; i++) {
                 word = word << 8 | bytes[from + i] & 255;
             }
-            if (!reader.type(word, n)) {
+            if (!type(word, n)) {
                 return false;
             }
         }
@@ -22,17 +48,21 @@ final class Desk {
 
     boolean bar(String line) {
         type(line);
-        return reader.bar();
+        return called().bar();
     }
 
     int place(String line) {
         type(line);
-        return reader.place();
+        return called().place();
     }
 
     boolean constant(String line, long v) {
         type(line);
-        return reader.constant(v);
+        return called().constant(v);
+    }
+
+    String read(String line) {
+        return read(line, false);
     }
 
     /** "fault 2"; or "constant 7", "place 0 + 4", "span 1 - 0 + 5". */
@@ -40,38 +70,70 @@ final class Desk {
         type(line);
         int kind;
         try {
-            kind = reader.read(products);
+            kind = called().read(products);
         } catch (IllegalArgumentException e) {
-            return "fault " + reader.fault();
+            // A class below it is one that the machine or the library throws.
+            return e.getClass() == IllegalArgumentException.class ? "fault " + fault() : "throws " + e;
         }
-        return (reader.fault() == 0 ? "" : "with a fault: ") + latest(kind);
+        return (fault() == 0 ? "" : "with a fault: ") + latest(kind);
     }
 
-    String read(String line) {
-        return read(line, false);
+    /** The bare answer of read, or the exception's name behind "throws.". */
+    String readKind(String line, boolean products) {
+        type(line);
+        try {
+            return String.valueOf(called().read(products));
+        } catch (RuntimeException e) {
+            return "throws." + e.getClass().getSimpleName();
+        }
     }
 
-    private String latest(int kind) {
-        String sides = reader.side(0) + " - " + reader.side(1) + " + " + reader.value();
-        switch (kind) {
-            case 0:
-                return sides.startsWith("-1 - -1 + ") ? "constant " + reader.value() : "bad " + sides;
-            case 1:
-                return reader.side(1) == -1 ? "place " + reader.side(0) + " + " + reader.value() : "bad " + sides;
-            case 2:
-                return "span " + sides;
-            default:
-                return "kind " + kind;
-        }
+    int fault() {
+        return called().fault();
+    }
+
+    long value() {
+        return called().value();
+    }
+
+    int side(int which) {
+        return called().side(which);
+    }
+
+    int token(int k, int what) {
+        return called().token(k, what);
     }
 
     /** All tokens of the line that was used latest: "kind:begin-end:worth", with blanks between. */
     String tokens() {
         StringBuilder all = new StringBuilder();
-        for (int k = 0; reader.token(k, 0) != -1; k++) {
-            all.append(k == 0 ? "" : " ").append(reader.token(k, 0)).append(':').append(reader.token(k, 1));
-            all.append('-').append(reader.token(k, 2)).append(':').append(reader.token(k, 3));
+        for (int k = 0; token(k, 0) != -1; k++) {
+            all.append(k == 0 ? "" : " ").append(token(k, 0)).append(':').append(token(k, 1));
+            all.append('-').append(token(k, 2)).append(':').append(token(k, 3));
         }
         return all.toString();
+    }
+
+    private String latest(int kind) {
+        int place = side(0);
+        int takenOff = side(1);
+        if (kind == 0 && place == -1 && takenOff == -1) {
+            return "constant " + value();
+        }
+        if (kind == 1 && place != -1 && takenOff == -1) {
+            return "place " + place + " + " + value();
+        }
+        if (kind == 2 && place != -1 && takenOff != -1) {
+            return "span " + place + " - " + takenOff + " + " + value();
+        }
+        return "kind " + kind + " with " + place + " - " + takenOff + " + " + value();
+    }
+
+    private ExpressionReader called() {
+        calls++;
+        if (calls > MOST_CALLS) {
+            throw new IllegalStateException("the test makes more than 512 calls");
+        }
+        return reader;
     }
 }

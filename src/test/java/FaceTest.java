@@ -5,15 +5,22 @@ import java.lang.reflect.Modifier;
 import java.util.Set;
 import java.util.TreeSet;
 
-/** The public face is the document's, and nothing else of the class can be seen from outside. */
+/** The document's section "The public face", and rule 1 of LANGUAGE.md, which binds it. */
 public final class FaceTest {
-    public static void main(String[] args) {
-        Checks checks = new Checks("face");
-        Class<?> face = ExpressionReader.class;
-        checks.due("the class", Modifier.toString(face.getModifiers()), "public final");
+    private static final Class<?> FACE = ExpressionReader.class;
 
+    public static void main(String[] args) {
+        Sentences all = new Sentences("The public face");
+        all.holds("the class, its constructor and its methods", FaceTest::members);
+        all.holds("LANGUAGE 1: no other member can be seen", FaceTest::nothingElse);
+        all.holds("LANGUAGE 1: no private method bears the name of a public one", FaceTest::namesOfMethods);
+        all.end();
+    }
+
+    private static void members(Checks checks) {
+        checks.due("the class", Modifier.toString(FACE.getModifiers()), "public final");
         Set<String> methods = new TreeSet<>();
-        for (Method m : face.getDeclaredMethods()) {
+        for (Method m : FACE.getDeclaredMethods()) {
             if (!Modifier.isPrivate(m.getModifiers())) {
                 methods.add(m.toString().replace("ExpressionReader.", "").replace("java.lang.", ""));
             }
@@ -23,18 +30,26 @@ public final class FaceTest {
                 "public boolean constant(long)", "public int read(boolean) throws IllegalArgumentException",
                 "public int fault()", "public long value()", "public int side(int)", "public int token(int,int)"));
         checks.due("methods", methods, due);
-
-        Constructor<?>[] makers = face.getDeclaredConstructors();
+        Constructor<?>[] makers = FACE.getDeclaredConstructors();
         checks.due("constructors", makers.length, 1);
         checks.due("the constructor", makers[0].toString(), "public ExpressionReader()");
-        for (Field f : face.getDeclaredFields()) {
+    }
+
+    private static void nothingElse(Checks checks) {
+        for (Field f : FACE.getDeclaredFields()) {
             checks.due("field " + f.getName() + " is private", Modifier.isPrivate(f.getModifiers()), true);
         }
-        for (Class<?> inside : face.getDeclaredClasses()) {
+        for (Class<?> inside : FACE.getDeclaredClasses()) {
             int seen = inside.getModifiers();
             checks.due(inside.getName() + " is static", Modifier.isStatic(seen), true);
             checks.due(inside.getName() + " is seen outside", Modifier.isPublic(seen) || Modifier.isProtected(seen), false);
         }
-        checks.end();
+    }
+
+    private static void namesOfMethods(Checks checks) {
+        Set<String> names = new TreeSet<>();
+        for (Method m : FACE.getDeclaredMethods()) {
+            checks.due("the name " + m.getName() + " stands once", names.add(m.getName()), true);
+        }
     }
 }

@@ -5,7 +5,6 @@ import java.util.Random;
 public final class ModelTest {
     private static final int RUNS = 2000;
     private static final int CALLS = 512;
-    private static final Checks CHECKS = new Checks("model");
     private static final String[] NAMES = {"a", "b", "c", "aa", "start", "end_", ".x", "_", "q.9", "rax", "five", "A",
         "n".repeat(63), "n".repeat(62)};
     private static final String[] NUMBERS = {"0", "1", "2", "7", "63", "64", "010", "0x10", "0xfF", "0b101", "'a'", "'\\n'",
@@ -15,22 +14,29 @@ public final class ModelTest {
         "5a", "0x", "0b2", "'", "''", "\"", "\\", "18446744073709551616", "n".repeat(64), "\u0000", "\u007f", "\u00e9", "\n",
         "; a", ";\u0001\u00ff", "'ab'", "'a'b", " ", "\t"};
 
+    private final Checks checks;
     private final Random random;
     private final ExpressionReader reader = new ExpressionReader();
     private final Model model = new Model();
     private final String run;
     private int calls = 0;
 
-    private ModelTest(int seed) {
+    private ModelTest(Checks checks, int seed) {
+        this.checks = checks;
         random = new Random(seed);
         run = "run " + seed + ", ";
     }
 
     public static void main(String[] args) {
+        Sentences all = new Sentences("Promises 1 to 10");
+        all.holds("the class and a second model of the document answer alike", ModelTest::answerAlike);
+        all.end();
+    }
+
+    private static void answerAlike(Checks checks) {
         for (int seed = 0; seed < RUNS; seed++) {
-            new ModelTest(seed).go();
+            new ModelTest(checks, seed).go();
         }
-        CHECKS.end();
     }
 
     private void go() {
@@ -178,6 +184,6 @@ public final class ModelTest {
 
     private void due(String call, Object got, Object want) {
         calls++;
-        CHECKS.due(run + "call " + calls + ", " + call, got, want);
+        checks.due(run + "call " + calls + ", " + call, got, want);
     }
 }

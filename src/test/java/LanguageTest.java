@@ -1,0 +1,74 @@
+import java.util.Random;
+
+/** Rule 7 of LANGUAGE.md: no call ever throws by itself, for any arguments in any state. */
+public final class LanguageTest {
+    private static final int[] INTS = {Integer.MIN_VALUE, -1024, -2, -1, 0, 1, 2, 3, 4, 8, 9, 255, 256, 1023, 1024, 1025, Integer.MAX_VALUE};
+
+    public static void main(String[] args) {
+        Sentences all = new Sentences("LANGUAGE 7");
+        all.holds("no call throws by itself: any arguments", LanguageTest::anyArguments);
+        all.holds("no call throws by itself: any bytes", LanguageTest::anyBytes);
+        all.holds("no call throws by itself: behind the 512th call too", LanguageTest::manyCalls);
+        all.end();
+    }
+
+    /** All there is to ask, where any answer will do; read alone may throw, and only this one. */
+    private static void askAll(ExpressionReader reader, boolean products) {
+        try {
+            reader.read(products);
+        } catch (IllegalArgumentException e) {
+            if (e.getClass() != IllegalArgumentException.class) {
+                throw e;
+            }
+        }
+        reader.fault();
+        reader.value();
+        for (int i : INTS) {
+            reader.side(i);
+            for (int what : INTS) {
+                reader.token(i, what);
+            }
+        }
+    }
+
+    private static void anyArguments(Checks checks) {
+        ExpressionReader reader = new ExpressionReader();
+        for (int n : INTS) {
+            for (long word : new long[] {Long.MIN_VALUE, -1, 0, 0x2b31L, Long.MAX_VALUE}) {
+                checks.due("type of " + n, reader.type(word, n), n >= 1 && n <= 8);
+            }
+            reader.constant(n);
+            askAll(reader, n % 2 == 0);
+        }
+    }
+
+    private static void anyBytes(Checks checks) {
+        Random random = new Random(7);
+        String likely = "ab59x_.'\"\\;()+-*/%&|^~$<> \t,:[]0b1";
+        for (int run = 0; run < 3000; run++) {
+            ExpressionReader reader = new ExpressionReader();
+            int length = random.nextInt(4) == 0 ? 1024 : random.nextInt(40);
+            for (int i = 0; i < length; i++) {
+                int c = random.nextInt(200) == 0 ? random.nextInt(256) : likely.charAt(random.nextInt(likely.length()));
+                checks.due("type", reader.type(c, 1), true);
+            }
+            askAll(reader, run % 2 == 0);
+        }
+    }
+
+    private static void manyCalls(Checks checks) {
+        ExpressionReader reader = new ExpressionReader();
+        for (int i = 0; i < 3000; i++) {
+            checks.due("type", reader.type(0x6e000000L | (0x30 + i / 100) << 16 | (0x30 + i / 10 % 10) << 8 | 0x30 + i % 10, 4), true);
+            if (i % 3 == 0) {
+                reader.place();
+            } else if (i % 3 == 1) {
+                reader.constant(i);
+            } else {
+                reader.bar();
+            }
+            reader.type(0x6e303030L, 4);
+            askAll(reader, false);
+        }
+    }
+}
