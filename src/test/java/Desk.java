@@ -5,7 +5,6 @@ import java.nio.charset.StandardCharsets;
  * refuses to make more calls than the document promises anything for.
  */
 final class Desk {
-    static final int LONGEST_LINE = 1024;
     private static final int MOST_CALLS = 512;
 
     private final ExpressionReader reader = new ExpressionReader();

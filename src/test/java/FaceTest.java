@@ -47,9 +47,10 @@ public final class FaceTest {
     }
 
     private static void namesOfMethods(Checks checks) {
-        Set<String> names = new TreeSet<>();
+        Set<String> faced = Set.of("type", "bar", "place", "constant", "read", "fault", "value", "side", "token");
         for (Method m : FACE.getDeclaredMethods()) {
-            checks.due("the name " + m.getName() + " stands once", names.add(m.getName()), true);
+            boolean hidden = Modifier.isPrivate(m.getModifiers());
+            checks.due(m.getName() + " is private and named as a public one", hidden && faced.contains(m.getName()), false);
         }
     }
 }

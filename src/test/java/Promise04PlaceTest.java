@@ -5,6 +5,7 @@ public final class Promise04PlaceTest {
         all.holds("the line is just one NAME, which gets the next place: this", Promise04PlaceTest::nextPlaces);
         all.holds("that which it has, if it has one", Promise04PlaceTest::placeItHas);
         all.holds("that which it has: no place is lost by asking", Promise04PlaceTest::noneLost);
+        all.holds("the next place: a name that was read is not known by that", Promise04PlaceTest::readBefore);
         all.holds("-1 if it is no such line", Promise04PlaceTest::noName);
         all.holds("-1 if it is no such line: no place is lost, nothing is known then", Promise04PlaceTest::noneLostByNoName);
         all.holds("-1 if the name is BARRED", Promise04PlaceTest::barred);
@@ -42,6 +43,17 @@ public final class Promise04PlaceTest {
         checks.due("the next place", desk.place("b"), 1);
         desk.read("a-b");
         checks.due("the next place behind a read", desk.place("c"), 2);
+    }
+
+    private static void readBefore(Checks checks) {
+        Desk desk = new Desk();
+        for (String line : new String[] {"n", "1+n", "n m", "n @", "n/0"}) {
+            desk.read(line);
+        }
+        checks.due("place of n", desk.place("n"), 0);
+        checks.due("read of n", desk.read("n+1"), "place 0 + 1");
+        checks.due("constant of m", desk.constant("m", 4), true);
+        checks.due("read of m", desk.read("m"), "constant 4");
     }
 
     private static void noName(Checks checks) {

@@ -103,6 +103,7 @@ public final class TermLineTest {
         Desk desk = new Desk();
         desk.read("\"a\";\"b\"");
         checks.due("tokens of a text and a comment", desk.tokens(), "3:0-3:0");
+        checks.due("a comment of the last byte", new Desk().read(Lines.blanks(1022) + "1;"), "constant 1");
         checks.due("bar of a name and a comment", desk.bar("x;y"), true);
         checks.due("place of a name and a comment", desk.place("p ; q r"), 0);
         checks.due("constant of a name and a comment", desk.constant("c;", 2), true);

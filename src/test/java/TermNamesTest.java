@@ -7,7 +7,8 @@ public final class TermNamesTest {
         all.holds("at most 63 long: up to 63 it is a name, for each call", TermNamesTest::longEnough);
         all.holds("at most 63 long: from 64 it is none, for each call", TermNamesTest::tooLong);
         all.holds("no letter, digit, _ or . stands directly behind a NAME", TermNamesTest::notCutInTwo);
-        all.holds("names that differ in one byte, in length or in case are not the same", TermNamesTest::differ);
+        all.holds("names that differ in length, in order or in case are not the same", TermNamesTest::differ);
+        all.holds("names of 63 that differ in one byte, wherever it is, are not the same", TermNamesTest::differInOneByte);
         all.end();
     }
 
@@ -33,13 +34,15 @@ public final class TermNamesTest {
             checks.due("a token of " + Checks.shown("" + c), desk.token(0, 0) == 1, name);
             boolean behind = name || Lines.isOneOf(Lines.BLANKS, c);
             checks.due("place of " + Checks.shown(c + "n"), desk.place(c + "n"), name ? 1 : behind ? 0 : -1);
-            checks.due("no token in " + Checks.shown(c + "n"), digit && desk.token(0, 0) != -1, false);
+            if (digit) {
+                checks.due("tokens of " + c + "n", desk.tokens(), "");
+            }
         }
     }
 
     private static void longEnough(Checks checks) {
         for (int length : new int[] {1, 2, 8, 31, 32, 61, 62, 63}) {
-            String name = "n".repeat(length - 1) + "9".repeat(length == 1 ? 0 : 1) + (length == 1 ? "n" : "");
+            String name = "n" + "9".repeat(length - 1);
             checks.due("bar of " + length, new Desk().bar(name), true);
             checks.due("constant of " + length, new Desk().constant(name, 3), true);
             Desk desk = new Desk();
@@ -83,7 +86,8 @@ public final class TermNamesTest {
 
     private static void differ(Checks checks) {
         String stem = "n".repeat(62);
-        String[] names = {"a", "A", "aa", "aA", "ab", "ba", "a.", "a_", "_a", ".a", "a1", "a2", "a.1", "_", ".", "__", "..", "._", "_.",
+        String[] names = {"a", "A", "aa", "aA", "ab", "ba", "a.", "a_", "_a", ".a", "a1", "a2", "a.1",
+            "_", ".", "__", "..", "._", "_.", "Aa", "BB", "AaBB", "BBAa",
             stem, stem + "n", stem + "m", stem + "N", "m" + stem};
         Desk desk = new Desk();
         for (int i = 0; i < names.length; i++) {
@@ -91,6 +95,18 @@ public final class TermNamesTest {
         }
         for (int i = 0; i < names.length; i++) {
             checks.due("place of " + Checks.shown(names[i]) + " again", desk.place(names[i]), i);
+        }
+    }
+
+    private static void differInOneByte(Checks checks) {
+        String name = "n".repeat(63);
+        for (int i = 0; i < 63; i++) {
+            String other = name.substring(0, i) + "m" + name.substring(i + 1);
+            Desk desk = new Desk();
+            desk.place(name);
+            checks.due("read of a name with another byte at " + i, desk.read(other), "fault 3");
+            checks.due("place of it", desk.place(other), 1);
+            checks.due("place of the first", desk.place(name), 0);
         }
     }
 }

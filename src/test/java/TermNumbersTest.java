@@ -1,4 +1,5 @@
 import java.math.BigInteger;
+import java.util.Random;
 
 /** The document's terms NUMBERS and ESCAPE. */
 public final class TermNumbersTest {
@@ -56,6 +57,13 @@ public final class TermNumbersTest {
                 reads(checks, "0b" + n.toString(2), "fault 1");
             }
             reads(checks, "0x" + n.toString(16), "fault 1");
+        }
+        Random random = new Random(64);
+        for (int i = 0; i < 300; i++) {
+            BigInteger n = new BigInteger(65 + i % 20, random).setBit(64 + i % 20);
+            reads(checks, n.toString(), "fault 1");
+            reads(checks, "0x" + n.toString(16), "fault 1");
+            reads(checks, "0b" + n.toString(2), "fault 1");
         }
         reads(checks, "9".repeat(1024), "fault 1");
         reads(checks, "1" + "0".repeat(1023), "fault 1");

@@ -1,11 +1,9 @@
-/** The document's term SIGNS, and how tokens are taken. */
+/** The document's term SIGNS. */
 public final class TermSignsTest {
     public static void main(String[] args) {
         Sentences all = new Sentences("Terms, SIGNS");
         all.holds("which they are, of all bytes", TermSignsTest::ofOneByte);
         all.holds("<< >> are of two bytes, < and > alone are none", TermSignsTest::ofTwoBytes);
-        all.holds("tokens are taken from the left, each as long as can be", TermSignsTest::asLongAsCanBe);
-        all.holds("where no token can be is a fault", TermSignsTest::nowhere);
         all.end();
     }
 
@@ -43,36 +41,5 @@ public final class TermSignsTest {
         cuts(checks, Lines.blanks(1022) + "<<", "4:1022-1024:60");
         cuts(checks, Lines.blanks(1023) + "<", "");
         cuts(checks, Lines.blanks(1023) + ">", "");
-    }
-
-    private static void asLongAsCanBe(Checks checks) {
-        cuts(checks, "<<<<", "4:0-2:60 4:2-4:60");
-        cuts(checks, "<<<", "4:0-2:60");
-        cuts(checks, ">>>", "4:0-2:62");
-        cuts(checks, ">>>>>", "4:0-2:62 4:2-4:62");
-        cuts(checks, "abc123._x", "1:0-9:0");
-        cuts(checks, "123456", "2:0-6:123456");
-        cuts(checks, "0x1f", "2:0-4:31");
-        cuts(checks, "0b11", "2:0-4:3");
-        cuts(checks, "++", "4:0-1:43 4:1-2:43");
-        cuts(checks, "-5", "4:0-1:45 2:1-2:5");
-        cuts(checks, "$a", "4:0-1:36 1:1-2:0");
-        cuts(checks, "a<<b>>5", "1:0-1:0 4:1-3:60 1:3-4:0 4:4-6:62 2:6-7:5");
-        cuts(checks, "\"a b\"", "3:0-5:0");
-    }
-
-    private static void nowhere(Checks checks) {
-        String[][] due = {{"@", ""}, {"@1", ""}, {"1@", "2:0-1:1"}, {"1 @ 2", "2:0-1:1"}, {"a,@,b", "1:0-1:0 4:1-2:44"}, {"a b c @", "1:0-1:0 1:2-3:0 1:4-5:0"},
-            {"a 5b c", "1:0-1:0"}, {"( 'ab' )", "4:0-1:40"}, {"1 \\", "2:0-1:1"}, {"1=2", "2:0-1:1"}, {"a!", "1:0-1:0"}};
-        for (String[] row : due) {
-            cuts(checks, row[0], row[1]);
-            checks.due("read of " + Checks.shown(row[0]), new Desk().read(row[0]), "fault 1");
-            checks.due("place of " + Checks.shown(row[0]), new Desk().place(row[0]), -1);
-            checks.due("bar of " + Checks.shown(row[0]), new Desk().bar(row[0]), false);
-            checks.due("constant of " + Checks.shown(row[0]), new Desk().constant(row[0], 1), false);
-        }
-        for (char c : "!#=?@\\`{}".toCharArray()) {
-            checks.due("read of 1 " + c, new Desk().read("1 " + c), "fault 1");
-        }
     }
 }

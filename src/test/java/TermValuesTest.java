@@ -176,6 +176,7 @@ public final class TermValuesTest {
     }
 
     private static void oddParts(Checks checks) {
-        odd(checks, "(1/0)*0", "0*(1/0)", "1/0-1/0", "1/0|1", "(a+b)-(a+b)", "a+b-b", "a+b-a-b", "-a+a", "(a*1)-(a*1)", "1-a+a", "(((1%0)))", "+-a", "a-(1-b)");
+        odd(checks, "(1/0)*0", "0*(1/0)", "1/0-1/0", "1/0|1", "(a+b)-(a+b)", "a+b-b", "a+b-a-b",
+                "-a+a", "(a*1)-(a*1)", "1-a+a", "(((1%0)))", "+-a", "a-(1-b)");
     }
 }
